@@ -47,8 +47,10 @@ final class Crowd {
         return x;
     }
 
-    /** The text has this FAULT at this place. */
-    static void faulty(String text, int why, int place) {
+    /** The text has this FAULT where it has a ^ (which is not fed). */
+    static void faulty(int why, String marked) {
+        int place = marked.indexOf('^');
+        String text = marked.replace("^", "");
         Objections x = told("objector old grave 1 minutes 1;");
         due("wedding of " + text, wed(x, text), -1);
         due("fault(0) of " + text, x.fault(0), why);
