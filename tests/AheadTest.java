@@ -322,6 +322,15 @@ public final class AheadTest {
         Crowd.due("60 at most", x.tarry(1), 61);
         x = Crowd.told("objector a grave 9 minutes 60;objector b grave 9 minutes 9;settles b a;order (minute<50)*(1-number)+(minute>49)*number;");
         Crowd.due("tarry(0)", x.tarry(0), 50);
+        x = Crowd.told("objector a grave 9 minutes 60;objector c grave 9 minutes 60;objector b grave 9 minutes 9;settles b a;settles b c;"
+                + "order (heard=0 and minute=60)*number;");
+        Crowd.due("tarry(0)", x.tarry(0), 60);
+        Crowd.due("tarry(1)", x.tarry(1), 69);
+        x = Crowd.told("objector a grave 9 minutes 60;objector c grave 9 minutes 60;objector b grave 9 minutes 9;settles b a;settles b c;"
+                + "order (heard=0 and minute=61)*number;");
+        Crowd.due("60 at most", x.tarry(0), 0);
+        x = Crowd.told("objector a grave 9 minutes 60;objector b grave 9 minutes 9;settles b a;order (minute<50)*(1-number)+(minute>49)*number;");
+        Crowd.due("tarry(0)", x.tarry(0), 50);
         Crowd.due("tarry(1)", x.tarry(1), 59);
     }
 
@@ -347,6 +356,17 @@ public final class AheadTest {
         Crowd.due("swap(0)", x.swap(0), 0);
         Crowd.due("swap(1)", x.swap(1), 2);
         Crowd.due("swap(2)", x.swap(2), 18);
+        // who is AWAY has a NUMBER as well, but exchanges none
+        Objections y = Crowd.told("objector a grave 9 minutes 50;objector b grave 1 minutes 2 late;objector c grave 5 minutes 9;"
+                + "settles c a;order (number=1)*999+grave;");
+        Crowd.due("dusk", y.dusk(), 59);
+        Crowd.due("swap(0)", y.swap(0), -1);
+        y = Crowd.told("objector a grave 9 minutes 50;objector b grave 1 minutes 2;objector c grave 5 minutes 9;"
+                + "settles c a;order (number=1)*999+grave;");
+        Crowd.due("dusk", y.dusk(), 61);
+        Crowd.due("swap(0)", y.swap(0), 1);
+        Crowd.due("swap(1)", y.swap(1), 2);
+        Crowd.due("swap(2)", y.swap(2), 11);
         // who does not WAIT exchanges nothing
         x.buy(2);
         Crowd.due("swap(1)", x.swap(1), 3);

@@ -23,6 +23,9 @@ public final class ModelTest {
         for (int i = from; i < from + runs && wrong < 5; i++) {
             new ModelTest(i).run();
         }
+        for (int i = from; i < from + 4 * runs && wrong < 5; i++) {
+            new ModelTest(i).soonest();
+        }
         System.out.println(wrong == 0 ? runs + " runs are as the model's" : wrong + " runs differ from the model's");
         if (wrong != 0) System.exit(1);
     }
@@ -30,9 +33,9 @@ public final class ModelTest {
     private void run() {
         int left = 512;
         int often = 20 + chance.nextInt(150);
-        left -= tell();
+        left -= tell(new Weddings(chance).text());
         for (int i = 0; left > 0; i++) {
-            if (i % often == often - 1 && left > 100) left -= tell();
+            if (i % often == often - 1 && left > 100) left -= tell(new Weddings(chance).text());
             left--;
             if (!call(CALLS[chance.nextInt(CALLS.length)])) {
                 wrong++;
@@ -42,8 +45,18 @@ public final class ModelTest {
         }
     }
 
-    private int tell() {
-        String text = new Weddings(chance).text();
+    private void soonest() {
+        tell(new Weddings(chance).comings());
+        for (int i = 0; i < 3; i++) {
+            if (!call("soonest") || !call("hear")) {
+                wrong++;
+                System.out.println(story);
+                return;
+            }
+        }
+    }
+
+    private int tell(String text) {
         story.append("--- ").append(text.replace("\n", "|")).append('\n');
         real.end(0);
         model.end(0);

@@ -129,6 +129,15 @@ public final class SightsTest {
         Crowd.due("sure(-1)", x.sure(-1, 0), -1);
         x.seen(2, 1, true);
         Crowd.due("none FITS", x.sure(0, 0), -1);
+        Objections y = Crowd.told("objector a grave 1 minutes 1;objector b grave 7 minutes 1;");
+        y.seen(1, 1, false);
+        y.seen(2, 0, false);
+        Crowd.due("0 and 1", y.sure(1, 0), 1);
+        y = Crowd.told("objector a grave 0 minutes 1;objector b grave 7 minutes 1;");
+        y.seen(1, 0, true);
+        Crowd.due("0 alone", y.fits(0), 1);
+        Crowd.due("0 alone", y.sure(0, 0), 0);
+        Crowd.due("0 alone", y.sure(1, 0), 0);
         Crowd.due("none FITS", x.sure(1, 0), -1);
     }
 

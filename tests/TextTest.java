@@ -10,6 +10,7 @@ public final class TextTest {
         feeding();
         ending();
         weddings();
+        afresh();
         faultNumbers();
         noTokens();
         misplacedTokens();
@@ -51,6 +52,8 @@ public final class TextTest {
         Crowd.due("about(12)", x.about(12), 1600);
         Crowd.due("end 1599", x.end(1599), 1599);
         Crowd.due("feed above", x.feed(0x39393939, 0, 0, 0, 0), -1);
+        Crowd.due("end 1581", x.end(1581), 1581);
+        Crowd.due("feed one byte above", x.feed(0, 0, 0, 0, 0), -1);
         Crowd.due("end 1580", x.end(1580), 1580);
         // "bar 123;" and blanks: the highest byte of each number comes first
         Crowd.due("feed to the brim", x.feed(0x62617220, 0x3132333b, 0x20202020, 0x20202020, 0x0a0a0a0a), 1600);
@@ -118,6 +121,32 @@ public final class TextTest {
             Crowd.due("objector(0, " + i + ")", x.objector(0, i), a[i]);
             Crowd.due("objector(1, " + i + ")", x.objector(1, i), b[i]);
         }
+    }
+
+    private static void afresh() {
+        Crowd.at("promise 4, nothing of an earlier text");
+        Objections x = Crowd.told(A + "objector b grave 2 minutes 2 stays 3 price 4 late;settles a b;brings a b;joined a b 9;order 0-1;answer 0;bar 3;draw 4;");
+        Crowd.due("one with a FAULT", Crowd.wed(x, AB + "settles b a;brings b a;joined a b 9;order 1;answer 0;bar 1;draw 1;$"), -1);
+        Crowd.due("a plain one", Crowd.wed(x, AB), 2);
+        int[] about = {2, 0, 0, 0, 100, 0, 3, 0};
+        int[] b = {0, 2, 2, 1, 0, 0, 0, 0};
+        for (int i = 0; i < 8; i++) {
+            Crowd.due("about(" + i + ")", x.about(i), about[i]);
+            Crowd.due("objector(1, " + i + ")", x.objector(1, i), b[i]);
+        }
+        Crowd.due("settles", x.objector(0, 6), 0);
+        Crowd.due("brings", x.objector(0, 7), 0);
+        Crowd.due("order", x.ranks(1), 2);
+        Crowd.due("units", x.about(13), 0);
+        Crowd.due("answer", x.odds(1, 0), 1);
+        x.pause(60);
+        Crowd.due("stays", x.objector(1, 0), 0);
+        Crowd.due("a plain one", Crowd.wed(x, AB + "bar 4;answer 0;"), 2);
+        x.hear();
+        x.hear();
+        Crowd.due("joined", x.weight(), 3);
+        Crowd.due("once each, of a text", Crowd.wed(x, "joined"), -1);
+        Crowd.due("once each, of a text", Crowd.wed(x, AB + "joined b a 9;order 1;answer 1;bar 1;draw 1;"), 2);
     }
 
     private static String state(Objections x) {

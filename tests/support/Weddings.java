@@ -49,6 +49,19 @@ final class Weddings {
         return text.length() > 1600 ? text.substring(0, 1600) : text;
     }
 
+    /** One in which it matters when each one came: most are brought, and few stay long. */
+    String comings() {
+        List<String> lines = new ArrayList<>();
+        int people = 5 + upTo(2);
+        for (int i = 0; i < people; i++) {
+            lines.add("objector " + NAMES[i] + " grave " + upTo(9) + " minutes " + (1 + upTo(8)) + " stays " + (3 + upTo(22)) + (i > 1 ? " late;" : ";"));
+        }
+        pairs(lines, "brings", people, 12, "");
+        while (lines.stream().filter(x -> x.startsWith("brings")).count() > 6) lines.remove(lines.size() - 1);
+        pairs(lines, "settles", people, upTo(5), "");
+        return String.join("", lines);
+    }
+
     private void pairs(List<String> lines, String sort, int people, int many, String behind) {
         List<String> known = new ArrayList<>();
         for (int i = 0; i < many && people > 1; i++) {
