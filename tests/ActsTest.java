@@ -290,6 +290,12 @@ public final class ActsTest {
         Crowd.due("ACTS", x.about(8), 4);
         x = Crowd.told(CROWD);
         Crowd.due("both LEFT", x.pause(7), 2);
+        x = Crowd.told(TWO);
+        for (int i = 0; i < 16; i++) {
+            x.pause(60);
+        }
+        Crowd.due("999 minutes, if not told", x.pause(39), 0);
+        Crowd.due("more than 999", x.pause(1), 2);
         x = new Objections();
         Crowd.due("nobody there", x.pause(60), 0);
         Crowd.due("an ACT", x.about(8), 1);
