@@ -515,6 +515,13 @@ public final class Objections {
 
     /** Reads a WEDDING from the TAPE into a draft, so that a FAULT leaves the WEDDING that is. */
     private static final class Reader {
+        // The FAULTS.
+        private static final int NO_TOKEN = 1;
+        private static final int MISPLACED = 2;
+        private static final int TOLD_ALREADY = 3;
+        private static final int NUMBER_CANT_BE = 4;
+        private static final int UNKNOWN_NAME = 5;
+
         private static final int MOST_SETTLES = 12;
         private static final int MOST_BRINGS = 6;
         private static final int MOST_JOINED = 6;
@@ -615,7 +622,7 @@ public final class Objections {
                 return false;
             }
             if ((whom[one] >> two & 1) != 0) {
-                return refuse(3);
+                return refuse(TOLD_ALREADY);
             }
             whom[one] |= 1 << two;
             tape.step();
@@ -630,7 +637,7 @@ public final class Objections {
                 return false;
             }
             if (draft.joined[one * Book.MOST + two] != 0) {
-                return refuse(3);
+                return refuse(TOLD_ALREADY);
             }
             tape.step();
             if (!readAmount(1, 99)) {
@@ -761,7 +768,7 @@ public final class Objections {
                 return misplaced();
             }
             if (find() >= 0) {
-                return refuse(3);
+                return refuse(TOLD_ALREADY);
             }
             names[who] = tape.name;
             tape.step();
@@ -773,14 +780,14 @@ public final class Objections {
             tape.step();
             one = find();
             if (one < 0) {
-                return tape.kind == Tape.NAME ? refuse(5) : misplaced();
+                return tape.kind == Tape.NAME ? refuse(UNKNOWN_NAME) : misplaced();
             }
             tape.step();
             two = find();
             if (two < 0) {
-                return tape.kind == Tape.NAME ? refuse(5) : misplaced();
+                return tape.kind == Tape.NAME ? refuse(UNKNOWN_NAME) : misplaced();
             }
-            return one != two || refuse(3);
+            return one != two || refuse(TOLD_ALREADY);
         }
 
         /** Which OBJECTOR the TOKEN names; NONE if it is the NAME of none, or no NAME. */
@@ -798,7 +805,7 @@ public final class Objections {
                 return misplaced();
             }
             if (tape.number < least || tape.number > most) {
-                return refuse(4);
+                return refuse(NUMBER_CANT_BE);
             }
             amount = tape.number;
             tape.step();
@@ -814,7 +821,7 @@ public final class Objections {
         }
 
         private boolean misplaced() {
-            return refuse(tape.kind == Tape.NO_TOKEN ? 1 : 2);
+            return refuse(tape.kind == Tape.NO_TOKEN ? NO_TOKEN : MISPLACED);
         }
 
         private boolean refuse(int why) {
