@@ -23,16 +23,10 @@ public final class ActsTest {
         Crowd.close("ActsTest");
     }
 
-    private static void is(Objections x, int... sorts) {
-        for (int i = 0; i < sorts.length; i++) {
-            Crowd.due("objector(" + i + ", 0)", x.objector(i, 0), sorts[i]);
-        }
-    }
-
     private static void objectors() {
         Crowd.at("promise 6");
         Objections x = Crowd.told(CROWD + "settles c a;settles c b;brings d a;brings d b;");
-        is(x, 0, 0, 0, 6);
+        Crowd.is(x, 0, 0, 0, 6);
         int[][] due = {{0, 10, 4, 0, 0, 2, 2, 0}, {0, 20, 3, 1, 0, 1, 0, 8}, {0, 20, 7, 2, 0, 4, 3, 0}, {6, 90, 5, 3, 0, 0, 0, 3}};
         for (int i = 0; i < 4; i++) {
             for (int j = 0; j < 8; j++) {
@@ -49,10 +43,10 @@ public final class ActsTest {
         Crowd.due("he waited", x.objector(0, 4), 2);
         Crowd.due("he is AWAY", x.objector(3, 4), 0);
         x.pause(1);
-        is(x, 0, 0, 4, 6);
+        Crowd.is(x, 0, 0, 4, 6);
         Crowd.due("he LEFT", x.objector(2, 4), 0);
         x.hear();
-        is(x, 0, 1, 4, 0);
+        Crowd.is(x, 0, 1, 4, 0);
         Crowd.due("he waited", x.objector(0, 4), 6);
         Crowd.due("he came now", x.objector(3, 4), 0);
         Crowd.due("he was heard", x.objector(1, 4), 0);
@@ -60,7 +54,7 @@ public final class ActsTest {
         Crowd.due("NUMBER", x.objector(0, 3), 3);
         Crowd.due("NUMBER", x.objector(3, 3), 0);
         x.buy(0);
-        is(x, 5, 1, 4, 0);
+        Crowd.is(x, 5, 1, 4, 0);
         Crowd.due("he was BOUGHT", x.objector(0, 4), 0);
     }
 
@@ -148,12 +142,12 @@ public final class ActsTest {
         Crowd.due("no ACT", x.about(8), 0);
         x = Crowd.told(CROWD);
         Crowd.due("hear", x.hear(), 1);
-        is(x, 0, 1, 4, 0);
+        Crowd.is(x, 0, 1, 4, 0);
         Crowd.due("minute", x.about(1), 3);
         Crowd.due("SEED", x.about(2), (333 * 137 + 71) % 1000);
         Crowd.due("ACTS", x.about(8), 1);
         Crowd.due("hear", x.hear(), 3);
-        is(x, 4, 1, 4, 1);
+        Crowd.is(x, 4, 1, 4, 1);
         Crowd.due("minute", x.about(1), 8);
         Crowd.due("nobody is left", x.hear(), -1);
         Crowd.due("minute", x.about(1), 8);
@@ -161,10 +155,10 @@ public final class ActsTest {
         // exactly as long as he stays is not more
         x = Crowd.told("objector a grave 2 minutes 5;objector b grave 1 minutes 1 stays 5;");
         x.hear();
-        is(x, 1, 0);
+        Crowd.is(x, 1, 0);
         x = Crowd.told("objector a grave 2 minutes 6;objector b grave 1 minutes 1 stays 5;");
         x.hear();
-        is(x, 1, 4);
+        Crowd.is(x, 1, 4);
     }
 
     private static void draws() {
@@ -180,15 +174,15 @@ public final class ActsTest {
         // the rest must be less than the answer
         x = Crowd.told(TWO + "answer 71;draw 0;");
         x.hear();
-        is(x, 2, 0);
+        Crowd.is(x, 2, 0);
         x = Crowd.told(TWO + "answer 72;draw 0;");
         x.hear();
-        is(x, 1, 0);
+        Crowd.is(x, 1, 0);
         // 999: 136,863 and 71 more are 136,934; its rest is 34
         x = Crowd.told(TWO + "answer 34;draw 999;");
         x.hear();
         Crowd.due("SEED", x.about(2), 934);
-        is(x, 2, 0);
+        Crowd.is(x, 2, 0);
     }
 
     private static void answers() {
@@ -196,25 +190,25 @@ public final class ActsTest {
         // told ahead of being heard: minute 0, nobody heard, waited 0
         Objections x = Crowd.told(TWO + "answer (minute+heard+waited=0)*100;");
         x.hear();
-        is(x, 1, 0);
+        Crowd.is(x, 1, 0);
         x.hear();
-        is(x, 1, 2);
+        Crowd.is(x, 1, 2);
         x = Crowd.told(TWO + "answer 0-5;");
         x.hear();
-        is(x, 2, 0);
+        Crowd.is(x, 2, 0);
         x = Crowd.told(TWO + "answer 9999*9999;");
         x.hear();
-        is(x, 1, 0);
+        Crowd.is(x, 1, 0);
         // without answer all are ANSWERED, whatever is drawn
         x = Crowd.told(TWO + "draw 4;");
         x.hear();
         Crowd.due("SEED", x.about(2), 619);
-        is(x, 1, 0);
+        Crowd.is(x, 1, 0);
         x = Crowd.told(TWO + "answer grave*40+number*60;draw 0;");
         x.hear();
-        is(x, 2, 0);
+        Crowd.is(x, 2, 0);
         x.hear();
-        is(x, 2, 1);
+        Crowd.is(x, 2, 1);
         // one who STANDS was HEARD, too
         x = Crowd.told(TWO + "objector c grave 1 minutes 1;answer 0;order heard;");
         x.hear();
@@ -228,28 +222,28 @@ public final class ActsTest {
         // one AWAY is not settled, and is brought by the same hearing
         Objections x = Crowd.told(three + "settles a c;brings a c;settles a b;brings a b;");
         x.hear();
-        is(x, 1, 3, 0, 6);
+        Crowd.is(x, 1, 3, 0, 6);
         Crowd.due("he came at", x.objector(2, 4), 0);
         // whom is brought later by another one stays what he is
         x = Crowd.told(three + "brings a c;brings b c;brings b a;");
         x.hear();
         x.hear();
-        is(x, 1, 1, 0, 6);
+        Crowd.is(x, 1, 1, 0, 6);
         Crowd.due("he came ahead", x.objector(2, 4), 1);
         // who STANDS settles likewise
         x = Crowd.told(three + "settles a b;brings a d;answer 0;");
         x.hear();
-        is(x, 2, 3, 6, 0);
+        Crowd.is(x, 2, 3, 6, 0);
         // one is settled ahead of leaving
         x = Crowd.told("objector a grave 2 minutes 9;objector b grave 1 minutes 1 stays 0;settles a b;");
         x.hear();
-        is(x, 1, 3);
+        Crowd.is(x, 1, 3);
         // he who came late stays from then on
         x = Crowd.told("objector a grave 2 minutes 9;objector b grave 1 minutes 1 stays 0 late;brings a b;");
         x.hear();
-        is(x, 1, 0);
+        Crowd.is(x, 1, 0);
         x.pause(1);
-        is(x, 1, 4);
+        Crowd.is(x, 1, 4);
     }
 
     private static void buying() {
@@ -262,7 +256,7 @@ public final class ActsTest {
         Crowd.due("buy(2)", x.buy(2), 4);
         Crowd.due("buy(2) again", x.buy(2), -1);
         Crowd.due("buy(0)", x.buy(0), 6);
-        is(x, 5, 0, 5, 6);
+        Crowd.is(x, 5, 0, 5, 6);
         Crowd.due("spent", x.about(3), 6);
         Crowd.due("minute", x.about(1), 0);
         Crowd.due("ACTS", x.about(8), 2);
@@ -283,9 +277,9 @@ public final class ActsTest {
         Crowd.due("pause(2)", x.pause(2), 0);
         Crowd.due("pause(1)", x.pause(1), 1);
         Crowd.due("pause(3)", x.pause(3), 0);
-        is(x, 0, 0, 4, 6);
+        Crowd.is(x, 0, 0, 4, 6);
         Crowd.due("pause(60)", x.pause(60), 1);
-        is(x, 4, 0, 4, 6);
+        Crowd.is(x, 4, 0, 4, 6);
         Crowd.due("minute", x.about(1), 66);
         Crowd.due("ACTS", x.about(8), 4);
         x = Crowd.told(CROWD);
@@ -329,12 +323,12 @@ public final class ActsTest {
         x.buy(2);
         x.hear();
         x.pause(4);
-        is(x, 4, 1, 5, 0);
+        Crowd.is(x, 4, 1, 5, 0);
         Crowd.due("undo", x.undo(), true);
-        is(x, 0, 1, 5, 0);
+        Crowd.is(x, 0, 1, 5, 0);
         Crowd.due("minute", x.about(1), 3);
         Crowd.due("undo", x.undo(), true);
-        is(x, 0, 0, 5, 6);
+        Crowd.is(x, 0, 0, 5, 6);
         Crowd.due("SEED", x.about(2), 333);
         Crowd.due("came", x.objector(3, 3), 3);
         Crowd.due("undo", x.undo(), true);
@@ -352,7 +346,7 @@ public final class ActsTest {
         Crowd.due("ACTS", x.about(8) * 10 + x.about(9), 31);
         Crowd.due("a call that does nothing", x.pause(0), -1);
         Crowd.due("redo", x.redo(), true);
-        is(x, 4, 1, 5, 0);
+        Crowd.is(x, 4, 1, 5, 0);
         Crowd.due("redo", x.redo(), false);
         x.undo();
         x.undo();
@@ -412,7 +406,7 @@ public final class ActsTest {
         x.pause(60);
         x.undo();
         Crowd.due("back(0)", x.back(0), 0);
-        is(x, 0, 0, 0, 6);
+        Crowd.is(x, 0, 0, 0, 6);
         Crowd.due("NUMBER", x.objector(0, 3), 0);
         Crowd.due("SEED", x.about(2), 333);
         Crowd.due("spent", x.about(3), 0);
@@ -424,7 +418,7 @@ public final class ActsTest {
         Crowd.row(x, 3);
         x.pause(1);
         Crowd.due("back(2)", x.back(2), 3);
-        is(x, 0, 1, 5, 0);
+        Crowd.is(x, 0, 1, 5, 0);
         Crowd.due("when he came", x.objector(3, 4), 0);
         Crowd.due("NUMBER", x.objector(0, 3), 1);
         Crowd.due("spent", x.about(3), 4);

@@ -10,6 +10,10 @@ final class Crowd {
         where = place;
     }
 
+    static int asked() {
+        return asked;
+    }
+
     static void due(String call, long got, long want) {
         asked++;
         if (got != want) {
@@ -72,6 +76,25 @@ final class Crowd {
             due("lies(" + i + ")", x.lies(i), due[i]);
         }
         due("lies(" + due.length + ")", x.lies(due.length), -1);
+    }
+
+    /** What each OBJECTOR is, from the first one on. */
+    static void is(Objections x, int... sorts) {
+        for (int i = 0; i < sorts.length; i++) {
+            due("objector(" + i + ", 0)", x.objector(i, 0), sorts[i]);
+        }
+    }
+
+    /** Seven OBJECTORS, of each sort one: 0 is ANSWERED, 1 STANDS, 2 WITHDREW, 3 LEFT, 4 was BOUGHT, 5 is AWAY, 6 WAITS; minute 2. */
+    static Objections ofEachSort() {
+        Objections x = told("objector a grave 9 minutes 1;objector b grave 8 minutes 1 price 3;objector c grave 1 minutes 1;"
+                + "objector d grave 1 minutes 1 stays 1;objector e grave 1 minutes 1 price 7;objector f grave 1 minutes 1 late;"
+                + "objector g grave 1 minutes 1 price 5;settles b c;answer (grave=9)*100;");
+        due("hear", x.hear(), 0);
+        due("hear", x.hear(), 1);
+        due("buy", x.buy(4), 7);
+        is(x, 1, 2, 3, 4, 5, 6, 0);
+        return x;
     }
 
     static void close(String name) {
