@@ -64,6 +64,19 @@ public final class ActsEdgesTest {
         Crowd.due("came at 0", x.objector(2, 4), 18);
     }
 
+    @Says("and came at minute 0, or when he was brought.")
+    static void promise06_whoeverIsBroughtCameThen() {
+        for (int late = 0; late < 7; late++) {
+            Objections x = Crowd.told(Crowd.oneBrought(late));
+            x.pause(3);
+            x.hear();
+            x.pause(2);
+            for (int i = 0; i < 7; i++) {
+                Crowd.due("objector(" + i + ", 4)", x.objector(i, 4), i == late ? 2 : i == (late + 1) % 7 ? 0 : 10);
+            }
+        }
+    }
+
     @Says("He has a NUMBER (0, 1, .. as told, at first)")
     static void promise06_numbersAsTold() {
         Objections x = Crowd.ofEachSort();
@@ -601,6 +614,44 @@ public final class ActsEdgesTest {
         Crowd.is(x, 0, 0, 6, 0);
     }
 
+    @Says("UNDO takes back the latest ACT that was not")
+    static void promise12_onlyActsAreTakenBack() {
+        Objections x = Crowd.told(TWO);
+        x.pause(4);
+        x.seen(1, 0, true);
+        x.untell(0);
+        x.later(9);
+        x.queue();
+        x.image(0);
+        Crowd.feed(x, "bar");
+        Crowd.due("undo", x.undo(), true);
+        Crowd.about(x, 2, 0, 0, 0, 100, 0, 3, 0, 0, 1, 1, 9, 3, 0, 2);
+        Crowd.due("UNTOLD already", x.untell(0), false);
+        Crowd.due("undo", x.undo(), false);
+        Crowd.due("back", x.back(0), 4);
+    }
+
+    @Says("UNDO takes back the latest ACT that was not")
+    static void promise12_eachOneCameWhenHeDid() {
+        for (int late = 0; late < 7; late++) {
+            Objections x = Crowd.told(Crowd.oneBrought(late));
+            x.hear();
+            x.pause(2);
+            x.pause(4);
+            Crowd.due("undo", x.undo(), true);
+            Crowd.due("undone, objector(" + late + ", 4)", x.objector(late, 4), 2);
+            Crowd.due("redo", x.redo(), true);
+            Crowd.due("redone, objector(" + late + ", 4)", x.objector(late, 4), 6);
+            for (int i = 0; i < 3; i++) {
+                x.undo();
+            }
+            Crowd.due("objector(" + late + ", 0)", x.objector(late, 0), 6);
+            x.pause(10);
+            x.hear();
+            Crowd.due("he came now", x.objector(late, 4), 0);
+        }
+    }
+
     @Says("REDO does that again which was taken back last (till another ACT); 40 at most are kept, the oldest go.")
     static void promise12_fortyAtMostTheOldestGo() {
         Objections x = Crowd.told(TWO);
@@ -789,6 +840,41 @@ public final class ActsEdgesTest {
         }
         Crowd.due("b came at 2", x.objector(1, 4), 3);
         Crowd.due("d came at 0", x.objector(3, 4), 5);
+    }
+
+    @Says("What OBJECTORS are, when they came")
+    static void promise43_whenTheyCameIsKept() {
+        for (int late = 0; late < 7; late++) {
+            Objections x = Crowd.told(Crowd.oneBrought(late));
+            x.image(1);
+            x.hear();
+            x.image(0);
+            Crowd.due("back", x.back(1), 0);
+            x.pause(10);
+            x.hear();
+            x.image(2);
+            Crowd.due("back", x.back(0), 5);
+            x.pause(1);
+            Crowd.due("he came at 5", x.objector(late, 4), 1);
+            Crowd.due("back", x.back(2), 15);
+            x.pause(3);
+            Crowd.due("he came at 15", x.objector(late, 4), 3);
+        }
+    }
+
+    @Says("NUMBERS, the minute, what is spent, the SEED are kept in a BOX")
+    static void promise43_eachOnesNumberIsKept() {
+        for (int i = 0; i < 7; i++) {
+            Objections x = Crowd.told(Crowd.oneBrought(6));
+            int other = (i + 3) % 7;
+            x.hear();
+            x.image(0);
+            int answer = x.trade(i, other);
+            Crowd.due("trade", answer, i == 0 || other == 0 ? -1 : other);
+            x.back(0);
+            Crowd.due("objector(" + i + ", 3)", x.objector(i, 3), i);
+            Crowd.due("objector(" + other + ", 3)", x.objector(other, 3), other);
+        }
     }
 
     @Says("(no ACTS are kept then)")

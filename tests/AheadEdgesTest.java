@@ -1,4 +1,7 @@
 import java.io.IOException;
+import java.util.ArrayList;
+import java.util.Arrays;
+import java.util.List;
 
 /** Promises 14 to 23, 27, 28 and 31 to 35: each sentence that names a boundary case of what will be, and would be best. */
 public final class AheadEdgesTest {
@@ -194,6 +197,25 @@ public final class AheadEdgesTest {
         Crowd.due("leavers", Crowd.told("objector a grave 9 minutes 5;objector b grave 1 minutes 1 stays 4;settles a b;").leavers(), 0);
     }
 
+    @Says("By what is now; nothing is done")
+    static void promise18_whatWasAheadIsNoMatter() {
+        Objections x = Crowd.told(THREE);
+        Crowd.due("course", x.course(), 3);
+        x.buy(0);
+        x.buy(1);
+        x.buy(2);
+        Crowd.due("by", x.by(9999), 0);
+        Crowd.due("when", x.when(0), -1);
+        Crowd.due("upset", x.upset(), 0);
+        Crowd.due("course", x.course(), 0);
+        Crowd.row(x);
+        Crowd.due("soonest", x.soonest(), 0);
+        Crowd.row(x);
+        x.undo();
+        Crowd.due("course", x.course(), 1);
+        Crowd.row(x, 2);
+    }
+
     // ---- promise 20
 
     @Says("SOONEST: the minute. Who is HEARD lies there then, in order.")
@@ -251,10 +273,76 @@ public final class AheadEdgesTest {
     @Says("of like ones the first row (by numbers as told)")
     static void promise20_whenEachCameMatters() {
         // a, b, d: c came at 5, waited 5 at 10 and must be HEARD; b, a, d: he came at 2, waited 8 at 10 and LEFT
-        Objections x = Crowd.told("objector a grave 1 minutes 5;objector b grave 1 minutes 2;objector c grave 1 minutes 40 stays 6 late;"
-                + "objector d grave 1 minutes 3;brings a c;brings b c;");
-        Crowd.due("soonest", x.soonest(), 10);
-        Crowd.row(x, 1, 0, 3);
+        String[] lines = {"objector a grave 1 minutes 5;", "objector b grave 1 minutes 2;", "objector d grave 1 minutes 3;"};
+        for (int late = 0; late < 4; late++) {
+            StringBuilder text = new StringBuilder();
+            for (int i = 0; i < 4; i++) {
+                text.append(i == late ? "objector c grave 1 minutes 40 stays 6 late;" : lines[i < late ? i : i - 1]);
+            }
+            Objections x = Crowd.told(text + "brings a c;brings b c;");
+            Crowd.due("soonest", x.soonest(), 10);
+            Crowd.row(x, late <= 1 ? 2 : 1, late == 0 ? 1 : 0, late <= 2 ? 3 : 2);
+        }
+    }
+
+    /** All orders in which so many can be told. */
+    private static List<List<Integer>> orders(int many) {
+        List<List<Integer>> all = new ArrayList<>();
+        all.add(new ArrayList<>());
+        for (int i = 0; i < many; i++) {
+            List<List<Integer>> longer = new ArrayList<>();
+            for (List<Integer> order : all) {
+                for (int at = 0; at <= i; at++) {
+                    List<Integer> one = new ArrayList<>(order);
+                    one.add(at, i);
+                    longer.add(one);
+                }
+            }
+            all = longer;
+        }
+        return all;
+    }
+
+    /** Gives all their NUMBERS in this order. */
+    private static void number(Objections x, List<Integer> order) {
+        for (int number = 0; number < order.size(); number++) {
+            for (int i = 0; i < order.size(); i++) {
+                if (x.objector(i, 3) == number && i != order.get(number)) {
+                    Crowd.due("trade", x.trade(order.get(number), i), number);
+                    break;
+                }
+            }
+        }
+    }
+
+    @Says("by hearing them in whichever order (always one who WAITS), the minute of DUSK that is least; of like ones the first row")
+    static void promise20_noOrderIsSoonerNorAheadOfTheFirstRow() {
+        String[] texts = {
+            "objector a grave 1 minutes 7 stays 9;objector b grave 1 minutes 3 stays 20;objector c grave 1 minutes 5 stays 6;"
+                + "objector d grave 1 minutes 4 stays 12;objector e grave 1 minutes 6 stays 15;settles c a;settles e b;settles b d;order 0;",
+            "objector a grave 1 minutes 3 stays 7;objector b grave 1 minutes 3 stays 7;objector c grave 1 minutes 3 stays 8;"
+                + "objector d grave 1 minutes 3 stays 8;objector e grave 1 minutes 3;settles a e;settles b c;settles d b;order 0;",
+            "objector a grave 1 minutes 9;objector b grave 1 minutes 8;objector c grave 1 minutes 7 stays 3;objector d grave 1 minutes 2 stays 1;"
+                + "objector e grave 1 minutes 1 stays 30;settles d a;settles e c;settles c b;settles a b;order 0;"};
+        for (String text : texts) {
+            int soonest = Integer.MAX_VALUE;
+            String first = "";
+            for (List<Integer> order : orders(5)) {
+                Objections x = Crowd.told(text);
+                number(x, order);
+                int dusk = x.dusk();
+                int[] row = new int[x.course()];
+                for (int i = 0; i < row.length; i++) row[i] = x.lies(i);
+                String rowText = Arrays.toString(row);
+                if (dusk < soonest || dusk == soonest && rowText.compareTo(first) < 0) first = rowText;
+                soonest = Math.min(soonest, dusk);
+            }
+            Objections x = Crowd.told(text);
+            Crowd.due("soonest of " + text, x.soonest(), soonest);
+            int[] row = new int[x.about(14)];
+            for (int i = 0; i < row.length; i++) row[i] = x.lies(i);
+            Crowd.due("the row of " + text + " is " + first, Arrays.toString(row).equals(first), true);
+        }
     }
 
     // ---- promise 21

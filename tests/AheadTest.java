@@ -450,10 +450,7 @@ public final class AheadTest {
             x.upset();
             x.fits(0);
             x.ask(i, 0);
-            int[] due = {4, 0, 333, 0, 40, 0, 7, 0, 0, 1};
-            for (int j = 0; j < due.length; j++) {
-                Crowd.due("about(" + j + ")", x.about(j), due[j]);
-            }
+            Crowd.about(x, 4, 0, 333, 0, 40, 0, 7, 0, 0, 1);
             for (int j = 0; j < 4; j++) {
                 Crowd.due("NUMBER", x.objector(j, 3), j);
                 Crowd.due("sort", x.objector(j, 0), j == 3 ? 6 : 0);

@@ -303,6 +303,21 @@ public final class ScalesEdgesTest {
         peril(Crowd.told(FOUR + "answer 50;bar 36;"), 3, 0, 1);
     }
 
+    @Says("that it is BARRED by those of them who are not ANSWERED and those who STAND, each likewise.")
+    static void promise30_byWhatIsNow() {
+        Objections x = Crowd.told(FOUR + "answer waited*10+heard;bar 10;");
+        peril(x, 1, 1, 1);
+        x.pause(3);
+        peril(x, 1, 7, 10);
+        x.hear();
+        Crowd.due("he STANDS", x.about(7), 4);
+        peril(x, 1, 1, 1);
+        x.undo();
+        x.buy(2);
+        x.pause(7);
+        peril(x, 1, 0, 1);
+    }
+
     // ---- promise 44
 
     @Says("NONE for another what. ## Not promised")
@@ -329,10 +344,7 @@ public final class ScalesEdgesTest {
         x.queue();
         Crowd.feed(x, "bar 5");
         // 6: 893, and then 122,341 and 71 more: 412
-        int[] due = {7, 2, 412, 9, 13, 1, 15, 48, 3, 1, 3, 9, 5, 5, 4};
-        for (int i = 0; i < due.length; i++) {
-            Crowd.due("about(" + i + ")", x.about(i), due[i]);
-        }
+        Crowd.about(x, 7, 2, 412, 9, 13, 1, 15, 48, 3, 1, 3, 9, 5, 5, 4);
     }
 
     @Says("5: 1 if it is BARRED, else 0")

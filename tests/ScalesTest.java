@@ -189,19 +189,13 @@ public final class ScalesTest {
         x.course();
         Crowd.feed(x, "bar");
         // 12: 1,644 and 71 more are 1,715: c is ANSWERED; 715: 97,955 and 71 more are 98,026: d is ANSWERED
-        int[] due = {4, 2, 26, 0, 25, 0, 2, 0, 3, 1, 2, 9, 3, 3, 1};
-        for (int i = 0; i < due.length; i++) {
-            Crowd.due("about(" + i + ")", x.about(i), due[i]);
-        }
+        Crowd.about(x, 4, 2, 26, 0, 25, 0, 2, 0, 3, 1, 2, 9, 3, 3, 1);
         Crowd.due("about(15)", x.about(15), -1);
         Crowd.due("about(-1)", x.about(-1), -1);
         Crowd.due("about(max)", x.about(Integer.MAX_VALUE), -1);
         x = Crowd.told(FOUR + "answer 0;bar 70;draw 5;brings c d;");
         x.hear();
         x.hear();
-        int[] then = {4, 2, (756 * 137 + 71) % 1000, 0, 70, 1, 3, 12, 2, 0, 0, 0, 0, 1, 0};
-        for (int i = 0; i < then.length; i++) {
-            Crowd.due("about(" + i + ")", x.about(i), then[i]);
-        }
+        Crowd.about(x, 4, 2, (756 * 137 + 71) % 1000, 0, 70, 1, 3, 12, 2, 0, 0, 0, 0, 1, 0);
     }
 }

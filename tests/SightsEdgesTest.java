@@ -231,6 +231,23 @@ public final class SightsEdgesTest {
         Crowd.due("the last one's ORDER as told", Crowd.told(THREE).ranks(2), 5);
     }
 
+    @Says("of the wedding as it was told")
+    static void promise39_anotherWeddingIsAsItWasToldThen() {
+        Objections x = Crowd.told(THREE);
+        x.seen(1, 2, true);
+        fits(x, 39, 61, 99);
+        Crowd.due("wedding", Crowd.wed(x, "objector a grave 90 minutes 1;objector b grave 80 minutes 1;objector c grave 70 minutes 1;"), 3);
+        x.seen(1, 2, true);
+        fits(x, 9, 91, 99);
+        Crowd.due("a FAULT", Crowd.wed(x, THREE + "$"), -1);
+        fits(x, 9, 91, 99);
+        Crowd.due("wedding", Crowd.wed(x, "objector a grave 90 minutes 1;objector b grave 80 minutes 1;"), 2);
+        x.seen(1, 1, true);
+        fits(x, 9, 91, 99);
+        x.seen(2, 1, true);
+        fits(x, 0, -1, -1);
+    }
+
     @Says("that at a place (1 .. 7; by TURNS) an OBJECTOR was HEARD, or was not")
     static void promise39_whoIsNeverHeardIsAtNoPlace() {
         Objections x = Crowd.told(THREE.replace("objector c grave 5 minutes 1;", "objector c grave 5 minutes 1 late;"));
@@ -258,6 +275,8 @@ public final class SightsEdgesTest {
         Objections x = Crowd.told(THREE);
         for (int what : OTHERS) {
             Crowd.due("sure(" + what + ")", x.sure(what, 0), -1);
+            Crowd.due("sure(0)", x.sure(0, 0), 0);
+            Crowd.due("sure(" + what + ") then", x.sure(what, 0), -1);
             Crowd.due("without OBJECTORS", new Objections().sure(what, 0), -1);
         }
     }
@@ -291,6 +310,8 @@ public final class SightsEdgesTest {
         Objections x = Crowd.told(THREE);
         for (int what : OTHERS) {
             Crowd.due("ask(" + what + ")", x.ask(what, 0), -1);
+            Crowd.due("ask(0)", x.ask(0, 0), 2);
+            Crowd.due("ask(" + what + ") then", x.ask(what, 0), -1);
             Crowd.due("without OBJECTORS", new Objections().ask(what, 0), -1);
         }
     }

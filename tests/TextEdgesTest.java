@@ -22,12 +22,6 @@ public final class TextEdgesTest {
         return "1" + "+1".repeat(many - 1);
     }
 
-    private static void about(Objections x, int... due) {
-        for (int i = 0; i < due.length; i++) {
-            Crowd.due("about(" + i + ")", x.about(i), due[i]);
-        }
-    }
-
     // ---- promise 1
 
     @Says("`NONE = -1`: There is none.")
@@ -38,7 +32,7 @@ public final class TextEdgesTest {
     @Says("An empty WEDDING.")
     static void promise01_aNewObjectIsAnEmptyWedding() {
         Objections x = new Objections();
-        about(x, 0, 0, 0, 0, 100, 0, 0, 0, 0, 0, 0, 0, 0, 0, 0);
+        Crowd.about(x, 0, 0, 0, 0, 100, 0, 0, 0, 0, 0, 0, 0, 0, 0, 0);
         Crowd.due("no OBJECTOR", x.objector(0, 0), -2);
         Crowd.due("nobody's TURN", x.next(), -1);
         Crowd.due("weight", x.weight(), 0);
@@ -196,7 +190,7 @@ public final class TextEdgesTest {
         Crowd.fine("\n \n", 0, 0);
         Objections x = Crowd.told(AB + "bar 9;order 1;");
         Crowd.due("an empty one behind another", x.wedding(), 0);
-        about(x, 0, 0, 0, 0, 100, 0, 0);
+        Crowd.about(x, 0, 0, 0, 0, 100, 0, 0);
         Crowd.due("units", x.about(13), 0);
     }
 
@@ -235,12 +229,27 @@ public final class TextEdgesTest {
         Crowd.due("SEED", x.about(2), 17);
     }
 
+    @Says("The TAPE (empty then) is the WEDDING (all as told")
+    static void promise04_eachOnesNumberAndComingAreAsTold() {
+        for (int late = 0; late < 7; late++) {
+            Objections x = Crowd.told(Crowd.oneBrought(late));
+            x.hear();
+            x.trade(late, (late + 2) % 7);
+            Crowd.due("wedding", Crowd.wed(x, SEVEN), 7);
+            x.pause(3);
+            for (int i = 0; i < 7; i++) {
+                Crowd.due("objector(" + i + ", 3)", x.objector(i, 3), i);
+                Crowd.due("objector(" + i + ", 4)", x.objector(i, 4), 3);
+            }
+        }
+    }
+
     @Says("minute 0, nothing spent")
     static void promise04_minute0AndNothingSpent() {
         Objections x = Crowd.ofEachSort();
-        about(x, 7, 2, 798, 7);
+        Crowd.about(x, 7, 2, 798, 7);
         Crowd.due("wedding", Crowd.wed(x, AB), 2);
-        about(x, 2, 0, 0, 0);
+        Crowd.about(x, 2, 0, 0, 0);
     }
 
     @Says("no ACTS are kept, nothing is SEEN")
@@ -323,7 +332,7 @@ public final class TextEdgesTest {
         String other = AB + "objector d grave 9 minutes 9 stays 0;objector e grave 9 minutes 9 stays 0;settles b a;brings a d;joined b a 7;"
                 + "order grave;answer 100;bar 1;draw 9;";
         Crowd.due("wedding", Crowd.wed(x, other + "$"), -1);
-        about(x, 3, 0, 5, 0, 51, 0, 3, 0, 0, 1, 1, 3, 0, 3, 2);
+        Crowd.about(x, 3, 0, 5, 0, 51, 0, 3, 0, 0, 1, 1, 3, 0, 3, 2);
         Crowd.due("settles", x.objector(0, 6), 2);
         Crowd.due("brings", x.objector(1, 7), 4);
         Crowd.due("objector(2, 1)", x.objector(2, 1), 3);
@@ -336,12 +345,28 @@ public final class TextEdgesTest {
         Crowd.is(x, 2, 3, 6);
     }
 
+    @Says("all else stays)")
+    static void promise04_behindAFaultNothingBeginsAgain() {
+        Objections x = Crowd.ofEachSort();
+        x.pause(3);
+        Crowd.due("wedding", Crowd.wed(x, SEVEN + "draw 17;$"), -1);
+        Crowd.is(x, 1, 2, 3, 4, 5, 6, 0);
+        Crowd.about(x, 7, 5, 798, 7, 100, 0, 64, 2, 4, 0);
+        Crowd.due("waited", x.objector(6, 4), 5);
+        Crowd.due("undo", x.undo(), true);
+        Crowd.due("minute", x.about(1), 2);
+        x = Crowd.told(AB);
+        x.trade(0, 1);
+        Crowd.due("wedding", Crowd.wed(x, AB + "bar 0;"), -1);
+        Crowd.due("NUMBER", x.objector(0, 3), 1);
+    }
+
     @Says("The TAPE (empty then) is the WEDDING (all as told")
     static void promise04_nothingOfTheWeddingBeforeStays() {
         Objections x = Crowd.told(A + "objector b grave 2 minutes 2 stays 3 price 4 late;settles a b;brings a b;joined a b 9;order 0-1;answer 0;"
                 + "bar 3;draw 4;");
         Crowd.due("wedding", Crowd.wed(x, AB), 2);
-        about(x, 2, 0, 0, 0, 100, 0, 3);
+        Crowd.about(x, 2, 0, 0, 0, 100, 0, 3);
         Crowd.due("price", x.objector(1, 5), 0);
         Crowd.due("settles", x.objector(0, 6), 0);
         Crowd.due("brings", x.objector(0, 7), 0);
@@ -355,12 +380,46 @@ public final class TextEdgesTest {
         Crowd.due("joined", x.weight(), 3);
     }
 
+    @Says("12 settles, 6 brings, 6 joined (two OBJECTORS told ahead, unlike; each two of a sort once")
+    static void promise04_asManyAndTheSameTwoInTheNextWedding() {
+        Objections x = Crowd.told(SEVEN + TWELVE + SIX + JOINED + "order 1;answer 0;bar 1;draw 1;");
+        Crowd.due("the same again", Crowd.wed(x, SEVEN + TWELVE + SIX + JOINED + "order 1;answer 0;bar 1;draw 1;"), 7);
+        Crowd.due("the same again, behind a FAULT", Crowd.wed(x, SEVEN + TWELVE + SIX + JOINED + "$"), -1);
+        Crowd.due("the same again", Crowd.wed(x, SEVEN + TWELVE + SIX + JOINED), 7);
+    }
+
+    @Says("The TAPE (empty then) is the WEDDING (all as told")
+    static void promise04_nothingOfALongerFormulaBeforeStays() {
+        Objections x = Crowd.told(A + "order not 0;answer not 0;");
+        Crowd.due("order not 0", x.ranks(0), 1);
+        Crowd.due("wedding", Crowd.wed(x, A + "order 7;answer 50;"), 1);
+        Crowd.due("order 7", x.ranks(0), 7);
+        Crowd.due("answer 50", x.odds(1, 1), 2);
+        Crowd.due("wedding", Crowd.wed(x, A + "order not grave-minutes;answer 1 and not waited;"), 1);
+        Crowd.due("wedding", Crowd.wed(x, A), 1);
+        Crowd.due("his grave", x.ranks(0), 1);
+        Crowd.due("100", x.odds(1, 0), 1);
+    }
+
+    @Says("The TAPE (empty then) is the WEDDING (all as told")
+    static void promise04_noneOfTheJoinedBeforeStay() {
+        String all = SEVEN + "answer 0;";
+        for (char c = 'a'; c < 'g'; c++) {
+            Objections x = Crowd.told(all + "joined " + c + " " + (char) (c + 1) + " 99;");
+            Crowd.due("wedding", Crowd.wed(x, all), 7);
+            for (int i = 0; i < 7; i++) {
+                x.hear();
+            }
+            Crowd.due("weight", x.weight(), 8);
+        }
+    }
+
     @Says("The TAPE (empty then) is the WEDDING (all as told")
     static void promise04_nothingOfATextWithAFaultStays() {
         Objections x = new Objections();
         Crowd.due("wedding", Crowd.wed(x, AB + "settles a b;brings a b;joined a b 9;order 1;answer 0;bar 3;draw 4;$"), -1);
         Crowd.due("wedding", Crowd.wed(x, AB), 2);
-        about(x, 2, 0, 0, 0, 100, 0, 3);
+        Crowd.about(x, 2, 0, 0, 0, 100, 0, 3);
         Crowd.due("settles", x.objector(0, 6), 0);
         Crowd.due("brings", x.objector(0, 7), 0);
         Crowd.due("units", x.about(13), 0);
@@ -466,6 +525,24 @@ public final class TextEdgesTest {
     static void promise04_eightLettersAreAWord() {
         Crowd.fine("objector abcdefgh grave 1 minutes 1;objector zyxwvuts grave 1 minutes 1;settles abcdefgh zyxwvuts;", 2, 0);
         Crowd.fine("objector aaaaaaaa grave 1 minutes 1;objector aaaaaaa grave 1 minutes 1;", 2, 0);
+    }
+
+    @Says("3 a NAME told already")
+    static void promise04_namesThatDifferInOneLetterOrInLengthAreTwo() {
+        for (char c = 'a'; c <= 'z'; c++) {
+            StringBuilder text = new StringBuilder();
+            for (int length = 2; length <= 8; length++) {
+                text.append("objector ").append(String.valueOf(c).repeat(length)).append(" grave 1 minutes 1;");
+            }
+            Crowd.fine(text.toString(), 7, 0);
+        }
+        String[][] rows = {{"abcdefgh", "bbcdefgh", "zbcdefgh", "abcdefgi", "abcdefg", "bcdefgh", "bacdefgh"}, {"a", "b", "aa", "ab", "ba", "az", "za"},
+            {"aaaaaaaa", "qaaaaaaa", "iaaaaaaa", "aaaaaaab", "aaaqaaaa", "aaaaqaaa", "baaaaaaa"}};
+        for (String[] row : rows) {
+            StringBuilder text = new StringBuilder();
+            for (String name : row) text.append("objector ").append(name).append(" grave 1 minutes 1;");
+            Crowd.fine(text.toString(), 7, 0);
+        }
     }
 
     @Says("N (1 to 4 digits)")
@@ -716,6 +793,31 @@ public final class TextEdgesTest {
         for (String text : new String[] {"bar", "bar 5", "bar 5  \n", "objector", "objector a grave 1 minutes 1", A + "settles", A + "settles a",
             AB + "joined a b", "order", "order not", "order 1+", "order (1", "order (1)"}) {
             Crowd.faulty(2, text + "^");
+        }
+    }
+
+    @Says("(bytes from 0; the end: the text's length)")
+    static void promise05_whatWasCutOffIsNotRead() {
+        String[] texts = {"bar 12", "order gravel", "bar 1x", "objector a grave 1 minutes 1;", "order 1+1"};
+        int[] ends = {5, 11, 5, 28, 8};
+        for (int i = 0; i < texts.length; i++) {
+            Objections x = new Objections();
+            Crowd.feed(x, texts[i]);
+            Crowd.due("end", x.end(ends[i]), ends[i]);
+            Crowd.due("wedding of " + texts[i] + " without its end", x.wedding(), -1);
+            Crowd.due("fault(0) of " + texts[i] + " without its end", x.fault(0), 2);
+            Crowd.due("fault(1) of " + texts[i] + " without its end", x.fault(1), ends[i]);
+        }
+    }
+
+    @Says("A WEDDING is a text of at most 1,600 bytes")
+    static void promise05_aFullTapeMayEndWithinALine() {
+        for (String last : new String[] {"bar", "draw 7", "order 1+", "a", "9", "bar 7 "}) {
+            Objections x = new Objections();
+            Crowd.feed(x, " ".repeat(1600 - last.length()) + last);
+            Crowd.due("wedding", x.wedding(), -1);
+            Crowd.due("fault(0) of " + last, x.fault(0), 2);
+            Crowd.due("fault(1) of " + last, x.fault(1), last.length() == 1 ? 1599 : 1600);
         }
     }
 

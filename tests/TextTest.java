@@ -27,10 +27,7 @@ public final class TextTest {
         Crowd.at("promise 1");
         Objections x = new Objections();
         Crowd.due("NONE", Objections.NONE, -1);
-        int[] due = {0, 0, 0, 0, 100, 0, 0, 0, 0, 0, 0, 0, 0, 0, 0};
-        for (int i = 0; i < due.length; i++) {
-            Crowd.due("about(" + i + ")", x.about(i), due[i]);
-        }
+        Crowd.about(x, 0, 0, 0, 0, 100, 0, 0, 0, 0, 0, 0, 0, 0, 0, 0);
         Crowd.due("next", x.next(), -1);
         Crowd.due("dusk", x.dusk(), 0);
         Crowd.due("fits", x.fits(0), 0);
@@ -100,10 +97,7 @@ public final class TextTest {
         Crowd.due("redo stays", x.redo(), true);
         Crowd.due("BOX stays", x.back(0), 6);
         Crowd.due("the same again", Crowd.wed(x, A), 1);
-        int[] due = {1, 0, 0, 0, 100, 0, 1, 0, 0, 0, 0, 3, 0, 0, 0};
-        for (int i = 0; i < due.length; i++) {
-            Crowd.due("about(" + i + ")", x.about(i), due[i]);
-        }
+        Crowd.about(x, 1, 0, 0, 0, 100, 0, 1, 0, 0, 0, 0, 3, 0, 0, 0);
         Crowd.due("BOX is empty", x.back(0), -1);
         Crowd.due("undo", x.undo(), false);
         Crowd.due("redo", x.redo(), false);

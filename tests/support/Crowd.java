@@ -78,6 +78,13 @@ final class Crowd {
         due("lies(" + due.length + ")", x.lies(due.length), -1);
     }
 
+    /** What about() tells, from what 0 on. */
+    static void about(Objections x, int... due) {
+        for (int i = 0; i < due.length; i++) {
+            due("about(" + i + ")", x.about(i), due[i]);
+        }
+    }
+
     /** What each OBJECTOR is, from the first one on. */
     static void is(Objections x, int... sorts) {
         for (int i = 0; i < sorts.length; i++) {
@@ -95,6 +102,17 @@ final class Crowd {
         due("buy", x.buy(4), 7);
         is(x, 1, 2, 3, 4, 5, 6, 0);
         return x;
+    }
+
+    /** Seven OBJECTORS; this one is late, and brought by the one behind him (by the first one, if he is the last), who comes first and takes 5. */
+    static String oneBrought(int late) {
+        StringBuilder text = new StringBuilder();
+        int bringer = (late + 1) % 7;
+        for (int i = 0; i < 7; i++) {
+            text.append("objector ").append((char) ('a' + i)).append(i == bringer ? " grave 9 minutes 5" : " grave 1 minutes 1");
+            text.append(i == late ? " late;" : ";");
+        }
+        return text.append("brings ").append((char) ('a' + bringer)).append(' ').append((char) ('a' + late)).append(';').toString();
     }
 
     static void close(String name) {
