@@ -6,6 +6,8 @@ public final class ModelTest {
         "redo", "next", "queue", "dusk", "when", "course", "leavers", "soonest", "first", "purchase", "boast", "weight", "threat", "bars",
         "gain", "crowd", "odds", "peril", "tarry", "swap", "by", "upset", "lies", "seen", "untell", "later", "fits", "sure", "ask", "image",
         "back", "about"};
+    private static final String[] DEEDS = {"pause", "hear", "hear", "buy", "trade", "trade", "undo", "redo", "redo", "image", "back"};
+    private static int gone = 0;
     private static int wrong = 0;
 
     private final Random chance;
@@ -25,6 +27,13 @@ public final class ModelTest {
         }
         for (int i = from; i < from + 4 * runs && wrong < 5; i++) {
             new ModelTest(i).soonest();
+        }
+        for (int i = from; i < from + runs && wrong < 5; i++) {
+            new ModelTest(i).deeds();
+        }
+        if (gone < runs && wrong == 0) {
+            wrong++;
+            System.out.println("too few ACTS came when 40 were kept: " + gone);
         }
         System.out.println(wrong == 0 ? runs + " runs are as the model's" : wrong + " runs differ from the model's");
         if (wrong != 0) System.exit(1);
@@ -53,6 +62,28 @@ public final class ModelTest {
                 System.out.println(story);
                 return;
             }
+        }
+    }
+
+    /** Mostly ACTS, more than are kept, then mostly UNDO, as often; and a look at what is so behind each. */
+    private void deeds() {
+        int left = 510 - tell(chance.nextInt(3) == 0 ? new Weddings(chance).comings() : new Weddings(chance).text());
+        for (int i = 0; left > 3; i++, left -= 4) {
+            String mostly = i < 62 ? "pause" : "undo";
+            String deed = chance.nextInt(12) > 0 ? mostly : DEEDS[chance.nextInt(DEEDS.length)];
+            int kept = model.about(8);
+            int minute = model.about(1);
+            int who = chance.nextInt(7);
+            int what = new int[] {0, 3, 4}[chance.nextInt(3)];
+            int fact = new int[] {1, 2, 3, 6, 7, 9}[chance.nextInt(6)];
+            boolean good = call(deed) && check("about8", real.about(8), model.about(8)) && check("about" + fact, real.about(fact), model.about(fact))
+                    && check("objector" + who + "," + what, real.objector(who, what), model.objector(who, what));
+            if (!good) {
+                wrong++;
+                System.out.println(story);
+                return;
+            }
+            gone += kept == 40 && model.about(8) == 40 && model.about(1) > minute ? 1 : 0;
         }
     }
 

@@ -1,4 +1,9 @@
 import java.lang.management.ManagementFactory;
+import java.lang.reflect.Array;
+import java.lang.reflect.Field;
+import java.lang.reflect.Modifier;
+import java.util.ArrayList;
+import java.util.List;
 
 /** No call takes room: an object makes all its rows at first. And none throws or hangs, whatever it is told. */
 public final class RoomTest {
@@ -29,8 +34,44 @@ public final class RoomTest {
         long taken = meter.getCurrentThreadAllocatedBytes() - before;
         Crowd.due("516 calls take " + taken + " bytes", taken < MOST_BYTES_TAKEN, true);
         Crowd.due("the calls answered", sum != 0, true);
+        rows();
         edges();
         Crowd.close("RoomTest");
+    }
+
+    /** How many objects and arrays a new one is, and how many fields and elements these have, as README.md tells. */
+    private static void rows() {
+        List<Object> all = new ArrayList<>(List.of(new Objections()));
+        int numbers = 0;
+        for (int i = 0; i < all.size(); i++) {
+            Object one = all.get(i);
+            if (one.getClass().isArray()) {
+                numbers += Array.getLength(one);
+                for (int k = 0; one instanceof Object[] && k < Array.getLength(one); k++) addNew(all, Array.get(one, k));
+            } else {
+                for (Field f : one.getClass().getDeclaredFields()) {
+                    if (Modifier.isStatic(f.getModifiers())) continue;
+                    numbers++;
+                    f.setAccessible(true);
+                    if (!f.getType().isPrimitive()) addNew(all, valueOf(f, one));
+                }
+            }
+        }
+        System.out.println("a new object is " + all.size() + " objects and arrays with " + numbers + " fields and elements");
+        Crowd.due("objects and arrays, to the next ten", (all.size() + 9) / 10 * 10, 110);
+        Crowd.due("fields and elements, to the next hundred", (numbers + 99) / 100 * 100, 6700);
+    }
+
+    private static Object valueOf(Field field, Object one) {
+        try {
+            return field.get(one);
+        } catch (IllegalAccessException e) {
+            throw new IllegalStateException(e);
+        }
+    }
+
+    private static void addNew(List<Object> all, Object one) {
+        if (all.stream().noneMatch(x -> x == one)) all.add(one);
     }
 
     private static long calls(Objections x, int i) {

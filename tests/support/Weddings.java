@@ -9,6 +9,7 @@ final class Weddings {
     private static final String[] STRAY = {";", "(", ")", "<", ">", "=", "+", "-", "*", "/", "%", "order", "answer", "bar 5;", "draw 7;",
         "not ", "and ", "or ", "zed", "ninelongw", "12345", "12a", "$", "\n", " ", "0", "99", "100", "1000", "late", "stays", "price", "joined",
         "brings", "settles", "objector", "grave", "minutes", "minute", "A", "\t", "\u00e9", "\0", "waited", "heard", "number"};
+    private static final int[] BOUNDS = {0, 1, 60, 61, 99, 100, 999, 1000};
     private final Random chance;
     private int units;
 
@@ -60,6 +61,34 @@ final class Weddings {
         while (lines.stream().filter(x -> x.startsWith("brings")).count() > 6) lines.remove(lines.size() - 1);
         pairs(lines, "settles", people, upTo(5), "");
         return String.join("", lines);
+    }
+
+    /** One at the limits: many of each sort, and formulas long and deep; half of them with a word changed. */
+    String knotted() {
+        List<String> lines = new ArrayList<>();
+        int people = 4 + upTo(4);
+        for (int i = 0; i < people; i++) {
+            lines.add("objector " + NAMES[i] + " grave " + upTo(99) + " minutes " + (1 + upTo(59)) + (seldom(3) ? " stays " + upTo(999) : "")
+                    + (seldom(3) ? " price " + upTo(99) : "") + (seldom(3) ? " late;" : ";"));
+        }
+        pairs(lines, "settles", people, seldom(4) ? 40 : upTo(4), "");
+        pairs(lines, "brings", people, seldom(4) ? 12 : upTo(4), "");
+        pairs(lines, "joined", people, seldom(4) ? 12 : upTo(4), " ");
+        for (String sort : new String[] {"order ", "answer "}) {
+            units = seldom(3) ? 28 + upTo(5) : 1 + upTo(20);
+            int more = seldom(3) ? upTo(8) : 0;
+            String formula = either(upTo(7));
+            lines.add(sort + (seldom(2) ? "not ".repeat(more) + formula : "(".repeat(more) + formula + ")".repeat(more)) + ";");
+        }
+        String text = String.join("", lines);
+        if (seldom(2)) {
+            String[] words = text.split("(?=[ ;])");
+            int at = chance.nextInt(words.length);
+            boolean isNumber = words[at].matches(" [0-9]+");
+            words[at] = " " + (isNumber ? BOUNDS[chance.nextInt(BOUNDS.length)] : STRAY[chance.nextInt(STRAY.length)]);
+            text = String.join("", words);
+        }
+        return text.length() > 1600 ? text.substring(0, 1600) : text;
     }
 
     private void pairs(List<String> lines, String sort, int people, int many, String behind) {
